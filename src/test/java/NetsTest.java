@@ -74,6 +74,9 @@ public final class NetsTest {
         due("the dearer one", x.nets(0), 1);
         due("ends at", x.nets(2), 3);
         due("alone", x.nets(3), 1);
+        x = Check.of("s00;e000099;e000099;");
+        due("a chain of one", x.nets(1), 1);
+        due("the first ends there", x.nets(2), 0);
         x = new DegreeInMistakes();
         due("dearest of none", x.nets(0), -4);
         due("longest of none", x.nets(1), 0);

@@ -38,6 +38,8 @@ public final class NextErrorTest {
         x.errs(0, 5, 0, 99);
         // Far from one of his own takes its NOVELTY of 99 down to what the new one has.
         due("a genius among his own", x.next(0), 599);
+        x = Check.of("s60;s00;e005099;e115099;e125099;e135099;e145099;e155099;");
+        due("near his own he would lose novelty", x.next(0), 100);
         x = Check.of("s00;", "e000099;e000099;e000099;e000099;e000099;e000099;e000099;e000099;e000099;e000099;e000099;");
         due("room for one", x.next(0), 99);
         x.errs(0, 0, 0, 99);
@@ -111,6 +113,9 @@ public final class NextErrorTest {
         x.corrects(3, 0);
         x.sends(3);
         due("not a corrected one", x.correct(3, 2), 1);
+        // One of SIZE 0, CITED, is worth a correction, too.
+        x = Check.of("s00;s10;s00;e100099;e001000;e200199;e000199;");
+        due("a don's of size 0", x.correct(0, 2), 0);
         // By its half SIZE a corrected one gives NOVELTY to the genius near it.
         x = Check.of("s60;s00;s00;e005099;e105099;e219999;");
         due("novelty by a correction", x.correct(2, 0), 1);

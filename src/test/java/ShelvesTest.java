@@ -53,6 +53,9 @@ public final class ShelvesTest {
         due("as ahead of it", x.element(0, 99), 5);
         due("n 100 once more", x.row(0, 1, 100), 0);
         due("0 at first", x.element(0, 99), 0);
+        x.put(0, 0, 5);
+        due("n 1", x.row(0, 1, 1), 0);
+        due("0 at first", x.element(0, 0), 0);
         due("n 0", x.row(0, 2, 0), 0);
         due("no place", x.put(0, 0, 0), -13);
     }
@@ -117,6 +120,10 @@ public final class ShelvesTest {
         due("one, and nothing", x.copy(2, 0, 1, 0, 1), -11);
         due("copy to one", x.copy(0, 0, 2, 0, 1), -12);
         due("copy from one", x.copy(2, 0, 0, 0, 1), -12);
+        x.row(2, 1, 5);
+        x.keep(2, 1, 0, 0);
+        due("copy to one where a row was", x.copy(0, 0, 2, 0, 1), -12);
+        due("copy from one where a row was", x.copy(2, 0, 0, 0, 1), -12);
         x.row(1, 0, 3);
         due("of another sort", x.copy(0, 0, 1, 0, 1), -12);
         due("of another sort ahead of places", x.copy(0, 9, 1, 9, -1), -12);

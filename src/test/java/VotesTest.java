@@ -84,6 +84,22 @@ public final class VotesTest {
         x.sends(0);
         due("nobody is in", x.examiners(-1), 0);
         due("nobody", x.examiners(3), -4);
+        x = Check.of("s00;s00;s00;s00;s00;s00;");
+        x.image();
+        for (int e = 0; e < 12; e++) {
+            x.errs(e / 2, 0, 0, 99);
+        }
+        due("six of twelve", x.examiners(-1), 6);
+        due("the first", x.examiners(0), 1);
+        due("the third: not his own", x.examiners(2), 0);
+        due("the sixth", x.examiners(5), 5);
+        due("nobody is left for the seventh", x.examiners(6), -4);
+        due("nobody is left for the twelfth", x.examiners(11), -4);
+        x.restore();
+        for (int e = 0; e < 2; e++) {
+            x.errs(5, 0, 0, 99);
+            due("fewer behind a restored image", x.examiners(-1), e + 1);
+        }
         // The least for the first one would leave the second without: it must give way.
         x = Check.of("s00;s00;s00;e200099;e100099;e100099;d2;");
         due("give way", x.examiners(-1), 2);

@@ -60,9 +60,9 @@ public final class WeeksOnTest {
         x.sends(0);
         due("one sent down may be first", x.firstThen(0), 0);
         due("firstWhen(1) of one that stays", x.firstWhen(1), 16);
-        // 60 WEEKS on is the last that is looked at: 39 and 0 more is not above 99 ever.
         x = Check.of("s70;s00;e000099;");
         due("as many, nothing", x.firstWhen(1), -4);
+        // 60 WEEKS on are the last that are looked at.
         x = Check.of("s00;s00;e006099;e100199;d0;");
         due("first in the last week", x.firstWhen(1), 60);
         x = Check.of("s00;s00;e006199;e100199;d0;");

@@ -135,12 +135,15 @@ public final class WhatHeIsTest {
         // A corrected one is halved, too, though it is marked nothing.
         x = Check.of("s00;s00;s00;e002099;e113099;c200;");
         due("a corrected one", x.two(0, 1), 1);
-        // Two geniuses at one TOPIC: MARKS are 2 times the gap for both, less half.
+        // Two geniuses at one TOPIC: both are MARKED for how far they are from each other.
         x = Check.of("s60;s60;e004099;e104099;");
         due("far from each other", x.two(0, 1), 1);
-        // One flees, one follows: no pair is at rest.
         x = Check.of("s60;s00;e004099;e106099;e103099;");
         due("the least one of theirs", x.two(0, 1), 1);
+        // The genius wants to be far from the freshman, who wants him near: no pair is at rest.
+        x = Check.of("s60;s20;e009099;e108099;");
+        due("no pair", x.two(0, 1), -4);
+        due("no pair, the other way", x.two(1, 0), -4);
     }
 
     private static void odds() {
@@ -196,6 +199,9 @@ public final class WhatHeIsTest {
         x.corrects(1, 2);
         due("36 by 4, above", x.mean(0), 9);
         due("36 by 4, below", x.mean(1), 1);
+        x = Check.of("s00;e004699;");
+        due("46 by 1, above", x.mean(0), 46);
+        due("46 by 1, below", x.mean(1), 1);
         x = Check.of("s00;e000099;e000099;");
         due("0 by 2, above", x.mean(0), 0);
         due("0 by 2, below", x.mean(1), 1);

@@ -501,12 +501,28 @@ public final class DegreeInMistakes {
         if (refusal != 0) {
             return refusal;
         }
+        return what == 0 ? kindsThatGrewSo(shelves[d], e) : figuresThatGrewSo(shelves[d], e);
+    }
+
+    /** Only his KIND is tried in place of what he has: his FIGURE stays. */
+    private int kindsThatGrewSo(Shelf row, int e) {
+        int figure = now.figure[now.by[e]];
         int bits = 0;
         for (int kind = 0; kind < KINDS; kind++) {
-            for (int figure = 0; figure < FIGURES; figure++) {
-                if (grewSo(shelves[d], e, kind, figure)) {
-                    bits |= 1 << (what == 0 ? kind : figure);
-                }
+            if (grewSo(row, e, kind, figure)) {
+                bits |= 1 << kind;
+            }
+        }
+        return bits;
+    }
+
+    /** Only his FIGURE is tried in place of what he has: his KIND stays. */
+    private int figuresThatGrewSo(Shelf row, int e) {
+        int kind = now.kind[now.by[e]];
+        int bits = 0;
+        for (int figure = 0; figure < FIGURES; figure++) {
+            if (grewSo(row, e, kind, figure)) {
+                bits |= 1 << figure;
             }
         }
         return bits;

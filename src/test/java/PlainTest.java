@@ -99,11 +99,15 @@ public final class PlainTest {
         }
     }
 
-    /** Tells how it would grow if another one had made it, with some of it skipped. */
+    /** Tells how it would grow if who made it had another KIND, another FIGURE or both, with some of it skipped. */
     private static void whatIs(int seed, DegreeInMistakes x, Plain p, int e, Random chance) {
         Plain other = p.same();
-        other.kind[p.by[e]] = chance.nextInt(8);
-        other.figure[p.by[e]] = chance.nextInt(10);
+        if (chance.nextBoolean()) {
+            other.kind[p.by[e]] = chance.nextInt(8);
+        }
+        if (chance.nextBoolean()) {
+            other.figure[p.by[e]] = chance.nextInt(10);
+        }
         int[] row = new int[1 + chance.nextInt(6)];
         for (int n = 0; n < row.length; n++) {
             row[n] = chance.nextInt(3) == 0 ? -128 : other.on(n).size[e];
@@ -111,12 +115,10 @@ public final class PlainTest {
         int kinds = 0;
         int figures = 0;
         for (int k = 0; k < 8; k++) {
-            for (int f = 0; f < 10; f++) {
-                if (p.grewSo(e, k, f, row, -128)) {
-                    kinds |= 1 << k;
-                    figures |= 1 << f;
-                }
-            }
+            kinds |= p.grewSo(e, k, p.figure[p.by[e]], row, -128) ? 1 << k : 0;
+        }
+        for (int f = 0; f < 10; f++) {
+            figures |= p.grewSo(e, p.kind[p.by[e]], f, row, -128) ? 1 << f : 0;
         }
         Check.fill(x, 0, 0, row);
         due(seed, "whatIs(0, " + e + ", 0)", x.whatIs(0, e, 0), kinds);

@@ -6,6 +6,9 @@ public final class WhatHeIsTest {
         order();
         rowRefusals();
         whatIs();
+        whatIsBySorts();
+        whatIsOfFreshmenAndWits();
+        whatIsOfStudents();
         two();
         odds();
         mean();
@@ -67,6 +70,7 @@ public final class WhatHeIsTest {
         due("figures by " + told, x.whatIs(0, 0, 1), figures);
     }
 
+    /** He is a fellow of FIGURE 4: other KINDS are tried with FIGURE 4, other FIGURES as a fellow's. */
     private static void whatIs() {
         DegreeInMistakes x = Check.of("s34;s00;e001099;");
         int skip = -32768;
@@ -74,22 +78,23 @@ public final class WhatHeIsTest {
         is(x, 255, 1023, 10);
         is(x, 0, 0, 11);
         is(x, 255, 1023, skip, skip);
-        is(x, 1 << 7, 1023, 10, 10);
-        // 1 more in WEEK 1: a student, a freshman, a wit of FIGURE 0 to 2.
-        is(x, 1 | 1 << 2 | 1 << 4, 1023, 10, 11);
-        is(x, 1, 1023, 10, 11, 12);
-        is(x, 1 << 2 | 1 << 4, 1023, 10, 11, 11);
-        is(x, 1 << 1 | 1 << 6 | 1 << 4, 1023, 10, 12);
-        is(x, 1 << 1 | 1 << 6, 1023, 10, skip, 14);
+        is(x, 1 << 7, 0, 10, 10);
+        is(x, 1 | 1 << 2, 0, 10, 11);
+        is(x, 1, 0, 10, 11, 12);
+        is(x, 1 << 2, 0, 10, 11, 11);
+        is(x, 1 << 1 | 1 << 6 | 1 << 4, 0, 10, 12);
+        is(x, 1 << 1 | 1 << 6, 0, 10, skip, 14);
+        is(x, 1 << 3, 1023, 10, 14);
         is(x, 1 << 3, 1023, 10, skip, skip, 22);
-        is(x, 1 << 5, 1023, skip, 13, 16);
-        // Only a wit grows by 2 and 1, 3 and 2, 4 and 3: his FIGURE is between.
-        is(x, 1 << 4, 7 << 3, 10, 12, 13);
-        is(x, 1 << 4, 7 << 6, 10, 13, 15);
-        is(x, 1 << 4, 1 << 9, 10, 14, 17);
+        is(x, 1 << 5, 0, skip, 13, 16);
+        is(x, 1 << 4, 0, 10, 12, 13);
+        // Only wits of another FIGURE grow so, and he has FIGURE 4.
+        is(x, 0, 0, 10, 13, 15);
+        is(x, 0, 0, 10, 14, 17);
         is(x, 0, 0, 10, 15);
         x.weeks(1);
-        is(x, 1 << 2 | 1 << 4 | 1 << 7, 1023, 14, 14);
+        is(x, 1 << 2 | 1 << 7, 0, 14, 14);
+        is(x, 1 << 3, 1023, 14, 18);
         x.sends(0);
         is(x, 255, 1023, 14, 14, 14);
         is(x, 0, 0, 14, 15);
@@ -97,21 +102,66 @@ public final class WhatHeIsTest {
         x.corrects(1, 0);
         is(x, 255, 1023, 7, 7);
         due("nothing has changed", x.count(2), 1);
-        x = Check.of("s00;e009599;");
-        // 99 at most: a fellow, and a wit of FIGURE 9 in an odd WEEK, add 4.
-        is(x, 1 << 3 | 1 << 4, 1023, 95, 99, 99);
+    }
+
+    private static void whatIsBySorts() {
+        DegreeInMistakes x = Check.of("s00;e009599;");
+        // 99 at most.
+        is(x, 1 << 3, 0, 95, 99, 99);
         Check.fill(x, 0, 0, -128, 96);
         due("bytes skip -128", x.whatIs(0, 0, 0), 1 | 1 << 2 | 1 << 4);
+        due("figures, bytes skip -128", x.whatIs(0, 0, 1), 1023);
         Check.fill(x, 0, 2, -32768, 96);
         due("ints don't skip -32768", x.whatIs(0, 0, 0), 0);
+        due("figures, ints don't skip -32768", x.whatIs(0, 0, 1), 0);
         Check.fill(x, 0, 2, Integer.MIN_VALUE, 96);
         due("ints skip their least", x.whatIs(0, 0, 0), 1 | 1 << 2 | 1 << 4);
+        due("figures, ints skip their least", x.whatIs(0, 0, 1), 1023);
         x.row(0, 2, 100);
         for (int i = 0; i < 100; i++) {
             x.put(0, i, 99);
         }
         x.put(0, 0, 95);
-        due("99 weeks on", x.whatIs(0, 0, 0), 1 << 3 | 1 << 4);
+        due("99 weeks on", x.whatIs(0, 0, 0), 1 << 3);
+        due("figures, 99 weeks on", x.whatIs(0, 0, 1), 0);
+    }
+
+    /** Of freshmen no FIGURE matters; of wits the FIGURE that he has tells KINDS, his KIND lets FIGURES be told. */
+    private static void whatIsOfFreshmenAndWits() {
+        DegreeInMistakes x = Check.of("s29;e001099;");
+        is(x, 1 << 2, 1023, 10, 11, 11, 12);
+        is(x, 1 << 3 | 1 << 4, 0, 10, 14);
+        is(x, 1 << 4, 0, 10, 14, 17);
+        is(x, 1, 0, 10, 11, 12);
+        x = Check.of("s40;e001099;");
+        is(x, 1 << 2 | 1 << 4, 7, 10, 11, 11);
+        is(x, 0, 7 << 3, 10, 12, 13);
+        is(x, 0, 7 << 6, 10, 13, 15);
+        is(x, 0, 1 << 9, 10, 14, 17);
+        is(x, 1 << 1 | 1 << 6, 7 << 3, 10, 12);
+        is(x, 1, 0, 10, 11, 12);
+        x = Check.of("s47;e001099;");
+        is(x, 1 << 2, 7, 10, 11, 11);
+        is(x, 0, 7 << 3, 10, 12, 13);
+        is(x, 1 << 4, 7 << 6, 10, 13, 15);
+        is(x, 1 << 4 | 1 << 5, 7 << 6, 10, 13);
+        // FIGURE 7 by 3 is 2 in an even WEEK, as a don's and a genius's.
+        x.weeks(1);
+        is(x, 1 << 1 | 1 << 4 | 1 << 6, 7 << 6, 13, 15);
+        is(x, 1, 7 << 3, 13, 14);
+        is(x, 1 << 2 | 1 << 7, 7, 13, 13);
+        // Who made the ERROR is asked about, not the first one.
+        x = Check.of("s00;s49;e101099;");
+        is(x, 1 << 4, 1 << 9, 10, 14, 17);
+        is(x, 1, 0, 10, 11, 12);
+    }
+
+    /** A student, who RIPENS 1 whatever his FIGURE. */
+    private static void whatIsOfStudents() {
+        DegreeInMistakes x = Check.of("s00;e000099;e000000;e000000;");
+        is(x, 1 << 7, 0, 0, 0);
+        is(x, 1 | 1 << 2 | 1 << 4, 1023, 0, 1);
+        is(x, 0, 0, 0, 0, 1);
     }
 
     private static void two() {

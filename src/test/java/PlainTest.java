@@ -6,11 +6,15 @@ public final class PlainTest {
 
     public static void main(String[] args) {
         for (int seed = 0; seed < 150; seed++) {
+            // An object is promised for 512 calls alone, so each part has its own.
             Random chance = new Random(seed);
             DegreeInMistakes x = college(chance);
             students(seed, x, Plain.of(x), chance);
+            x = college(new Random(seed));
             pairs(seed, x, Plain.of(x));
+            x = college(new Random(seed));
             errors(seed, x, Plain.of(x), chance);
+            x = college(new Random(seed));
             all(seed, x, Plain.of(x), chance);
         }
         for (int seed = 1000; seed < 1010; seed++) {

@@ -47,7 +47,7 @@ public final class RefusalsTest {
     }
 
     /** Students 0 to 3 (2 SENT DOWN, 3 has no errors), errors 0 to 3 (0 CORRECTED), an image, shelves of all sorts. */
-    private static DegreeInMistakes rich() {
+    static DegreeInMistakes rich() {
         DegreeInMistakes x = Check.of("s35;s47;s62;e014099;");
         x.image();
         Check.tell(x, "s09;e123000;e202001;e001199;w03;c200;");

@@ -317,6 +317,49 @@ final class Plain {
         return most;
     }
 
+    /** The SIZE and how far. */
+    int[] farthest(int t) {
+        int[] best = {0, -1};
+        for (int z = 0; z < 100; z++) {
+            int far = more(0, t, z, 99).novelty(errors);
+            if (far > best[1]) {
+                best = new int[] {z, far};
+            }
+        }
+        return best;
+    }
+
+    int order(int[] row) {
+        for (int i = 0; i < row.length; i++) {
+            if (row[i] < 0 || row[i] >= errors || isIn(row, row[i], 0, i)) {
+                return i;
+            }
+            int c = citing[row[i]];
+            if (c != 99 && !isIn(row, c, 0, i) && isIn(row, c, i, row.length)) {
+                return i;
+            }
+        }
+        return -4;
+    }
+
+    private static boolean isIn(int[] row, int e, int from, int to) {
+        for (int i = from; i < to; i++) {
+            if (row[i] == e) {
+                return true;
+            }
+        }
+        return false;
+    }
+
+    int forged(int[] row) {
+        for (int e = 0; e < row.length; e++) {
+            if (e >= errors || size[e] != row[e]) {
+                return e;
+            }
+        }
+        return -4;
+    }
+
     boolean grewSo(int e, int k, int f, int[] row, int skip) {
         Plain p = same();
         p.kind[by[e]] = k;

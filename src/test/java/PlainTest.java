@@ -16,6 +16,10 @@ public final class PlainTest {
             errors(seed, x, Plain.of(x), chance);
             x = college(new Random(seed));
             all(seed, x, Plain.of(x), chance);
+            x = college(new Random(seed));
+            netsAndTopics(seed, x, Plain.of(x));
+            x = college(new Random(seed));
+            rows(seed, x, Plain.of(x), chance);
         }
         for (int seed = 1000; seed < 1010; seed++) {
             Random chance = new Random(seed);
@@ -154,6 +158,58 @@ public final class PlainTest {
         }
         Check.fill(x, 0, 1, row);
         due(seed, "judge(0)", x.judge(0), wrong < 0 ? -4 : wrong);
+    }
+
+    private static void netsAndTopics(int seed, DegreeInMistakes x, Plain p) {
+        int longest = 0;
+        int end = -4;
+        int alone = 0;
+        int together = 0;
+        int[] times = new int[6];
+        for (int e = 0; e < p.errors; e++) {
+            end = p.depth(e) > longest ? e : end;
+            longest = Math.max(longest, p.depth(e));
+            alone |= p.cited(e) == 0 && p.citing[e] == 99 ? 1 << e : 0;
+            together += p.size[e];
+            times[p.topic[e]]++;
+        }
+        due(seed, "nets(2)", x.nets(2), end);
+        due(seed, "nets(3)", x.nets(3), alone);
+        int bits = 0;
+        int most = -4;
+        for (int topic = 5; topic >= 0; topic--) {
+            bits |= times[topic] > 0 ? 1 << topic : 0;
+            most = times[topic] > 0 && (most < 0 || times[topic] >= times[most]) ? topic : most;
+            int[] far = p.farthest(topic);
+            due(seed, "farthest(" + topic + ", 0)", x.farthest(topic, 0), far[0]);
+            due(seed, "farthest(" + topic + ", 1)", x.farthest(topic, 1), far[1]);
+        }
+        due(seed, "topics(0)", x.topics(0), bits);
+        due(seed, "topics(1)", x.topics(1), most);
+        // A fraction in least terms is one that no number from 2 on divides above and below.
+        long below = x.mean(1);
+        due(seed, "mean, multiplied out", x.mean(0) * Math.max(1, p.errors), together * below);
+        for (int n = 2; n <= below; n++) {
+            due(seed, "mean, divided by " + n, x.mean(0) % n == 0 && below % n == 0 ? 1 : 0, 0);
+        }
+    }
+
+    /** Some rows of ERRORS for order() and of SIZES for forged(), many of them so in part. */
+    private static void rows(int seed, DegreeInMistakes x, Plain p, Random chance) {
+        for (int i = 0; i < 8; i++) {
+            int[] order = new int[chance.nextInt(9)];
+            for (int place = 0; place < order.length; place++) {
+                order[place] = chance.nextInt(12) == 0 ? chance.nextInt(16) - 2 : (place + chance.nextInt(3)) % 12;
+            }
+            Check.fill(x, 0, chance.nextInt(3), order);
+            due(seed, "order(0)", x.order(0), p.order(order));
+            int[] sizes = new int[chance.nextInt(p.errors + 2)];
+            for (int e = 0; e < sizes.length; e++) {
+                sizes[e] = p.size[e] + (chance.nextInt(12) == 0 ? 1 : 0);
+            }
+            Check.fill(x, 1, chance.nextInt(3), sizes);
+            due(seed, "forged(1)", x.forged(1), p.forged(sizes));
+        }
     }
 
     private static void odds(int seed, DegreeInMistakes x, Plain p, Random chance) {

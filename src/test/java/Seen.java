@@ -16,7 +16,7 @@ final class Seen {
         return text.toString();
     }
 
-    private static void college(DegreeInMistakes x, StringBuilder text) {
+    static void college(DegreeInMistakes x, StringBuilder text) {
         for (int what = 0; what < 7; what++) {
             text.append(' ').append(x.count(what));
         }
